@@ -219,21 +219,24 @@ public final class SketchFiller {
     // ---- runs
 
     public int verdict(int guess, int input) {
-        if (!isRun(guess, input)) {
+        if (search == null || !search.program.hasRun(guess, input)) {
             return NONE;
         }
         return search.verdicts.verdictOf(guess, input);
     }
 
     public int steps(int guess, int input) {
-        if (!isRun(guess, input)) {
+        if (search == null || !search.program.hasRun(guess, input)) {
             return NONE;
         }
         return search.verdicts.ran(guess, input).stepsBegun();
     }
 
     public int ends(int guess, int input, int k) {
-        if (!isRun(guess, input) || k < 0 || k >= search.program.vars) {
+        if (search == null || !search.program.hasRun(guess, input)) {
+            return NONE;
+        }
+        if (k < 0 || k >= search.program.vars) {
             return NONE;
         }
         Machine machine = search.verdicts.ran(guess, input);
@@ -248,10 +251,6 @@ public final class SketchFiller {
             return -2;
         }
         return search.verdicts.leastRefuter(guess);
-    }
-
-    private boolean isRun(int guess, int input) {
-        return search != null && search.program.hasGuess(guess) && search.program.hasInput(input);
     }
 
     // ---- the search
@@ -566,35 +565,31 @@ public final class SketchFiller {
             return c >= '0' && c <= '9';
         }
 
-        private boolean isThere(int t) {
-            return t >= 0 && t < count;
-        }
-
         int count() {
             return count;
         }
 
         int kindOf(int t) {
-            return isThere(t) ? kind[t] : END;
+            return t >= 0 && t < count ? kind[t] : END;
         }
 
         int placeOf(int t) {
-            return isThere(t) ? place[t] : text.length;
+            return t >= 0 && t < count ? place[t] : text.length;
         }
 
         int numberOf(int t) {
-            return isThere(t) ? number[t] : 0;
+            return t >= 0 && t < count ? number[t] : 0;
         }
 
         void markHole(int t, int k) {
-            if (isThere(t)) {
+            if (t >= 0 && t < count) {
                 kind[t] = HOLE_USED;
                 number[t] = k;
             }
         }
 
         int lengthOf(int t) {
-            return isThere(t) ? length[t] : 0;
+            return t >= 0 && t < count ? length[t] : 0;
         }
 
         int byteOf(int t, int j) {
@@ -1110,6 +1105,10 @@ public final class SketchFiller {
 
         boolean hasInput(int input) {
             return input >= 0 && input < inputs();
+        }
+
+        boolean hasRun(int guess, int input) {
+            return hasGuess(guess) && hasInput(input);
         }
 
         private int shiftOfHole(int k) {

@@ -221,6 +221,9 @@ public final class PromisesTest {
         Tester.due("0 & 1/0", Tester.told("sketch 2;spec 0&1/0;").verdict(0, 0), 3);
         Tester.due("1 | 1%0", Tester.told("sketch 2;spec 1|1%0;").verdict(0, 0), 3);
         Tester.due("1/4 in two bits", Tester.told("sketch 2;spec 1/4;").verdict(0, 0), 3);
+        SketchFiller five = Tester.told("sketch 4;hole a 1;hole b 2;hole c 1;hole d 2;hole e 1;var v;"
+                + "v=a+b*2+c*3+d*4+e*5;spec 1;");
+        Tester.due("five holes", five.ends(0b1_10_1_01_1, 0, 0), (1 + 4 + 3 + 4 + 5) & 15);
         SketchFiller ins = Tester.told("sketch 4;in a 1;in b 2;in c 3;var x;var y;var z;x=a;y=b;z=c;spec 1;");
         Tester.due("first in", ins.ends(0, 52, 0), 1);
         Tester.due("second in", ins.ends(0, 52, 1), 2);
@@ -377,7 +380,8 @@ public final class PromisesTest {
         }
         // Only what refutes the current one counts; of several the least.
         SketchFiller y = Tester.told("sketch 3;in x 3;hole h 2;"
-                + "if h=0{must (x=3|x=4|x=5)=0;}if 0<h{must (x=1|x=4|x=5)=0;}spec 1;");
+                + "if h=0{must x<3|5<x;}if h=1{must (x=1|x=4|x=5)=0;}if 1<h{must (x=1)=0;}spec 1;");
+        Tester.due("the sharpest of all", y.sharpest(0), 1);
         y.set(1, 2);
         y.guess();
         Tester.due("the least of several", y.check(), 4);
@@ -388,6 +392,14 @@ public final class PromisesTest {
         z.set(1, 2);
         z.guess();
         Tester.due("out ones do not count", z.check(), 3);
+        // The greatest may be 0, and there may be none.
+        for (int order = 0; order < 3; order++) {
+            SketchFiller v = Tester.told("sketch 3;in x 3;hole h 1;spec h|0<x;");
+            v.set(1, order);
+            Tester.due("go by " + order, v.go(9), 4);
+            Tester.due("0 by " + order, v.state(10), 0);
+            Tester.due("found by " + order, v.state(0), 1);
+        }
         // The order may change while there is a current one.
         SketchFiller w = Tester.told(text);
         w.guess();

@@ -2,18 +2,9 @@
 public final class FaultsTest {
     private static final String HEAD = "sketch 4;";
 
-    /** The byte '@' in the text is left out and tells the place that is due. */
-    private static void fault(int kind, String marked) {
-        int place = marked.indexOf('@');
-        String text = marked.substring(0, place) + marked.substring(place + 1);
-        SketchFiller x = new SketchFiller();
-        Tester.due("fault of " + marked, Tester.tell(x, text), -2 - (8 * place + kind));
-        Tester.due("no sketch behind " + marked, x.has(0), -1);
-    }
+    private static void fault(int kind, String marked) { Tester.fault(kind, marked); }
 
-    private static void well(int statements, String text) {
-        Tester.due("statements of " + text, Tester.tell(new SketchFiller(), text), statements);
-    }
+    private static void well(int statements, String text) { Tester.well(statements, text); }
 
     private static String times(int n, String text) { return text.repeat(n); }
 

@@ -3,8 +3,7 @@ public final class PromisesTest {
     private static final int MIN = Integer.MIN_VALUE;
     private static final int MAX = Integer.MAX_VALUE;
 
-    /** Holes a (3 bits, rank 1) and b (2 bits, rank 2): t is x * a + b, and x + x + 1 is due. */
-    private static final String LINE = "sketch 3;in x 3;hole a 3;hole b 2 rank 2;var t;t=x*a+b;spec t=x+x+1;";
+    private static final String LINE = Tester.LINE;
     /** 0: stands. 1: spec. 2: must. 3: division. 4: while. 5: steps. By the input alone. */
     private static final String EACH_VERDICT = "sketch 4;in i 3;hole h 2;var v;v=7;"
             + "if i=2{must 0;}if i=3{v=1/(i-3);}if i=4{while 1 most 3{v=v+1;}}"
@@ -56,7 +55,7 @@ public final class PromisesTest {
         }
         Tester.due("new value", x.value(0, 0), -1);
         Tester.due("new cost", x.cost(0), -1);
-        Tester.due("new ranked", Tester.ranked(x, 0), Long.MIN_VALUE);
+        Tester.due("new ranked", Tester.ranked(x, 0), Tester.THROWS);
         Tester.due("new verdict", x.verdict(0, 0), -1);
         Tester.due("new steps", x.steps(0, 0), -1);
         Tester.due("new ends", x.ends(0, 0, 0), -1);
@@ -165,9 +164,9 @@ public final class PromisesTest {
         int[] order = {0, 4, 1, 8, 5, 12, 2, 9, 16};
         for (int i = 0; i < order.length; i++) Tester.due("ranked " + i, Tester.ranked(x, i), order[i]);
         Tester.due("ranked last", Tester.ranked(x, 31), 31);
-        Tester.due("ranked 32", Tester.ranked(x, 32), Long.MIN_VALUE);
-        Tester.due("ranked -1", Tester.ranked(x, -1), Long.MIN_VALUE);
-        Tester.due("ranked MAX", Tester.ranked(x, MAX), Long.MIN_VALUE);
+        Tester.due("ranked 32", Tester.ranked(x, 32), Tester.THROWS);
+        Tester.due("ranked -1", Tester.ranked(x, -1), Tester.THROWS);
+        Tester.due("ranked MAX", Tester.ranked(x, MAX), Tester.THROWS);
         x.pin(0, 7);
         Tester.due("ranked, out or not", Tester.ranked(x, 1), 4);
         SketchFiller zero = Tester.told("sketch 2;hole a 1 rank 0;hole b 2 rank 9;spec 1;");
@@ -690,7 +689,7 @@ public final class PromisesTest {
         Tester.due("cost", x.cost(0), 0);
         Tester.due("guess 1", x.cost(1), -1);
         Tester.due("ranked", Tester.ranked(x, 0), 0);
-        Tester.due("ranked 1", Tester.ranked(x, 1), Long.MIN_VALUE);
+        Tester.due("ranked 1", Tester.ranked(x, 1), Tester.THROWS);
         Tester.due("verdict", x.verdict(0, 0), 0);
         Tester.due("input 1", x.verdict(0, 1), -1);
         Tester.due("value", x.value(0, 0), -1);

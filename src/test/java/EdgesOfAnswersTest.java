@@ -312,6 +312,11 @@ public final class EdgesOfAnswersTest {
         x.pin(1, 1);
         Tester.due("none LEFT", x.kinds(), 0);
         Tester.due("one kind of 128", Tester.told("sketch 6;in x 6;in y 1;hole h 6;hole g 1;spec 1;").kinds(), 1);
+        SketchFiller alike = Tester.told("sketch 6;in x 6;in y 1;hole h 6;hole g 1;spec 1;");
+        alike.pin(0, 63);
+        Tester.due("alike to those that are OUT", alike.kinds(), 1);
+        alike.pin(1, 1);
+        Tester.due("the last one alone", alike.kinds(), 1);
         Tester.due("one kind that is REFUTED", Tester.told("sketch 6;hole h 6;hole g 1;spec 0;").kinds(), 1);
         // The same INPUTS, other VERDICTS: unlike.
         SketchFiller y = Tester.told("sketch 4;in x 1;hole h 3;var v;if h=1{must 0;}if h=2{v=1/0;}if h=3{while 1 most 1{}}"
@@ -333,7 +338,11 @@ public final class EdgesOfAnswersTest {
         Tester.due("by the first INPUT alone", x.alike(0, 64), false);
         int[][] none = {{128, 128}, {0, 128}, {128, 0}, {-1, -1}, {0, -1}, {-1, 0}, {MIN, MIN}, {MAX, MAX}, {0, MAX}, {MIN, 0}};
         for (int[] g : none) Tester.due(g[0] + " and " + g[1], x.alike(g[0], g[1]), false);
+        SketchFiller first = Tester.told("sketch 6;in x 6;in y 1;hole h 1;spec h|x|y;");
+        Tester.due("all but the first INPUT", first.alike(0, 1), false);
+        Tester.due("two kinds by the first INPUT", first.kinds(), 2);
         SketchFiller y = Tester.told("sketch 6;in x 6;in y 1;hole h 2;spec x<63|1-y|h<2;");
+        Tester.due("two kinds by the last INPUT", y.kinds(), 2);
         Tester.due("0 and 1", y.alike(0, 1), true);
         Tester.due("1 and 2, by the last INPUT", y.alike(1, 2), false);
         Tester.due("2 and 3", y.alike(2, 3), true);

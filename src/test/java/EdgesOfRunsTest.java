@@ -13,6 +13,7 @@ public final class EdgesOfRunsTest {
         comparedAboveNone();
         divided();
         dividedByZero();
+        dividedByZeroOften();
         eachPartWorkedOut();
         leftFirst();
         bitsBehindOneAnother();
@@ -37,6 +38,7 @@ public final class EdgesOfRunsTest {
         endsOfEach();
         refuters();
         noSuchRun();
+        smallerBehindLarger();
         Tester.end();
     }
 
@@ -147,6 +149,13 @@ public final class EdgesOfRunsTest {
         }
     }
 
+    private static void dividedByZeroOften() {
+        Tester.by("3 / or % by 0, whatever runs were before");
+        SketchFiller x = Tester.told("sketch 6;in x 6;in y 1;spec 1|2&3=4+5*(6/(x/63));");
+        for (int input = 0; input < 128; input++) Tester.due("on " + input, x.verdict(0, input), input < 126 ? 3 : 0);
+        for (int input = 0; input < 128; input++) Tester.due("steps on " + input, x.steps(0, input), 0);
+    }
+
     private static void eachPartWorkedOut() {
         Tester.by("Each part of an E is worked out");
         for (String e : new String[] {"0&1/0", "1|1/0", "0*(1%0)", "1/0&0", "1/0|1", "1^1/0", "0=1/0", "0<1/0", "(1/0)*0", "0/(1/0)", "-(1/0)", "~(1%0)"})
@@ -161,6 +170,12 @@ public final class EdgesOfRunsTest {
         Tester.due("8/4*2", comesTo(4, "8/4*2"), 4);
         Tester.due("7%4*2", comesTo(4, "7%4*2"), 6);
         Tester.due("2*7%4", comesTo(4, "2*7%4"), 2);
+        Tester.due("1+2*3", comesTo(4, "1+2*3"), 7);
+        Tester.due("2*3+1", comesTo(4, "2*3+1"), 7);
+        Tester.due("8-4/2", comesTo(4, "8-4/2"), 6);
+        Tester.due("8-5%3", comesTo(4, "8-5%3"), 6);
+        Tester.due("1<2+3", comesTo(4, "1<2+3"), 1);
+        Tester.due("3=1+2", comesTo(4, "3=1+2"), 1);
         Tester.due("1|2^3", comesTo(4, "1|2^3"), 0);
         Tester.due("3^2|1", comesTo(4, "3^2|1"), 1);
         Tester.due("1|2&4", comesTo(4, "1|2&4"), 1);
@@ -471,6 +486,10 @@ public final class EdgesOfRunsTest {
         Tester.due("may be set", comesTo(4, "3;let a=v{a=a+1;v=a;}v=v"), 4);
         Tester.due("anew each time", comesTo(4, "0;loop 3{let a=v{a=a+1;v=a;}}v=v"), 3);
         Tester.due("within one another", comesTo(4, "0;let a=1{let b=2{let c=4{v=a+b+c;a=8;}}v=v+a;}v=v"), 15);
+        SketchFiller all = Tester.told("sketch 4;var a;var b;var c;var d;a=1;b=2;c=3;d=4;"
+                + "let e=5{let f=6{let g=7{a=a+e;b=b+f;c=c+g;e=f+g;}}d=d+e;}spec 1;");
+        int[] want = {6, 8, 10, (4 + 13) & 15};
+        for (int k = 0; k < 4; k++) Tester.due("three lets beside var " + k, all.ends(0, 0, k), want[k]);
         Tester.due("beside one another", comesTo(4, "0;let a=1{v=a;}let b=2{v=v+b;}let a=4{v=v+a;}v=v"), 7);
     }
 
@@ -594,12 +613,47 @@ public final class EdgesOfRunsTest {
         Tester.due("OUT or not, kept or not", x.refuter(10), 5);
     }
 
+    /** What a larger SKETCH left behind is none of the smaller one that comes behind it. */
+    private static void smallerBehindLarger() {
+        Tester.by("3: The first n bytes of THE TAPE are the SKETCH from now on");
+        SketchFiller x = Tester.told("sketch 6;in x 6;in y 1;hole h 6;hole g 1;var v;spec 0;");
+        Tester.due("all REFUTED", x.many(1), 0);
+        Tester.due("smaller", Tester.tell(x, "sketch 6;in x 2;hole h 2;spec 1;"), 0);
+        Tester.due("all stand", x.many(1), 4);
+        Tester.due("verdict 3 3", x.verdict(3, 3), 0);
+        Tester.due("verdict 4 0", x.verdict(4, 0), -1);
+        Tester.due("verdict 0 4", x.verdict(0, 4), -1);
+        Tester.due("by 4", x.by(4, 0), -1);
+        Tester.due("by 3", x.by(3, 0), 4);
+        Tester.due("cost 4", x.cost(4), -1);
+        Tester.due("ranked 4", Tester.ranked(x, 4), Tester.THROWS);
+        Tester.due("refuter 4", x.refuter(4), -2);
+        Tester.due("keep 4", x.keep(4), -1);
+        Tester.due("refutes 4", x.refutes(4), -1);
+        Tester.due("alike 0 4", x.alike(0, 4), false);
+        Tester.due("alike 4 0", x.alike(4, 0), false);
+        Tester.due("alike 4 4", x.alike(4, 4), false);
+        Tester.due("shown 4", x.shown(4, -1), -1);
+        Tester.due("free 4", x.free(4, 0), -1);
+        Tester.due("no var", x.ends(0, 0, 0), -1);
+        Tester.due("no second hole", x.hole(1, 0), -1);
+        Tester.due("no pin of it", x.pin(1, 0), false);
+        Tester.due("larger again", Tester.tell(x, "sketch 6;in x 6;in y 1;hole h 6;hole g 1;spec x|y;"), 0);
+        Tester.due("none TRUE", x.many(1), 0);
+        Tester.due("by 127", x.by(127, 0), 127);
+    }
+
     private static void noSuchRun() {
         Tester.by("9, 10, 11: NONE: no such GUESS, INPUT");
         SketchFiller x = Tester.told("sketch 3;in x 3;hole h 2;var v;v=1;spec 1;");
         Tester.due("the last of both", x.verdict(3, 7), 0);
         Tester.due("its steps", x.steps(3, 7), 1);
         Tester.due("its end", x.ends(3, 7, 0), 1);
+        SketchFiller own = Tester.told("sketch 6;in x 2;hole h 2;var v;v=h*4+x;if h=3{v=v;}if x{v=v;v=v;}spec 1;");
+        for (int run = 0; run < 16; run++) {
+            Tester.due("its own end, " + run, own.ends(run >> 2, run & 3, 0), run);
+            Tester.due("its own steps, " + run, own.steps(run >> 2, run & 3), 3 + (run >> 2 == 3 ? 1 : 0) + ((run & 3) > 0 ? 2 : 0));
+        }
         int[][] none = {{4, 0}, {0, 8}, {-1, 0}, {0, -1}, {-1, -1}, {4, 8}, {MIN, 0}, {0, MIN}, {MAX, 0}, {0, MAX}, {1 << 29, 0}, {1 << 30, 7}};
         for (int[] run : none) {
             String what = run[0] + " on " + run[1];

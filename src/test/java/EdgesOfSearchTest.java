@@ -527,8 +527,8 @@ public final class EdgesOfSearchTest {
 
     private static void ordersOfCheck() {
         Tester.by("ORDER: 0 the least number, 1 the greatest number, 2 the one that REFUTES most GUESSES LEFT, of several the least");
-        // 0 is REFUTED by 2 to 5; 1 to 3 by 4 and 5 as well, and by 7, which does not REFUTE 0.
-        String text = "sketch 3;in x 3;hole h 2;if h{must x<4|x=6;}else{must x<2|5<x;}spec 1;";
+        // 0 is REFUTED by 2 to 5, 1 by 4, 5 and 7, 2 and 3 by 7, which does not REFUTE 0.
+        String text = "sketch 3;in x 3;hole h 2;if h=0{must x<2|5<x;}if h=1{must x<4|x=6;}if 1<h{must x<7;}spec 1;";
         int[] want = {2, 5, 4};
         for (int order = 0; order < 3; order++) {
             SketchFiller x = Tester.told(text);
@@ -536,7 +536,15 @@ public final class EdgesOfSearchTest {
             Tester.due("guess by " + order, x.guess(), 0);
             Tester.due("check by " + order, x.check(), want[order]);
         }
-        Tester.due("of all INPUTS it is the same", Tester.told(text).sharpest(0), 4);
+        Tester.due("of all INPUTS it is another", Tester.told(text).sharpest(0), 7);
+        // The second CURRENT has refuters of its own.
+        for (int order = 0; order < 3; order++) {
+            SketchFiller x = Tester.told(text);
+            x.keep(2);
+            x.set(1, order);
+            Tester.due("second guess by " + order, x.guess(), 1);
+            Tester.due("its check by " + order, x.check(), new int[] {4, 7, 7}[order]);
+        }
         // Told between guess and check, it counts.
         for (int order = 0; order < 3; order++) {
             SketchFiller x = Tester.told(text);

@@ -95,6 +95,10 @@ public final class EdgesOfTextTest {
         }
         Tester.due("sketch 1 of a new one", new SketchFiller().sketch(1), -1);
         Tester.due("sketch 0 of a new one", new SketchFiller().sketch(0), -3);
+        SketchFiller blank = new SketchFiller();
+        Tester.feed(blank, " sketch 3;spec 1;   ");
+        Tester.due("sketch 0 of blanks", blank.sketch(0), -3);
+        Tester.due("empty behind sketch 0", blank.state(5), 0);
         Tester.unchanged("sketch 0 in a used one", Tester::used, y -> y.sketch(0), -3);
         // Behind what is refused the same bytes are still there.
         SketchFiller x = new SketchFiller();
@@ -229,7 +233,13 @@ public final class EdgesOfTextTest {
         fault(2, "sketch 4;in abcdef 1;spec @abcdeg;");
         fault(2, "sketch 4;in abcdef 1;spec @abcde;");
         fault(2, "sketch 4;in abcde 1;spec @abcdef;");
-        well(0, "sketch 4;in aaaaaa 1;in aaaaa 1;in aaaa 1;hole aaa 1;hole aa 1;hole a 1;spec 1;");
+        for (char c = 'a'; c <= 'z'; c++) {
+            String six = String.valueOf(c).repeat(6);
+            well(0, "sketch 4;in " + six + " 1;in " + six.substring(1) + " 1;in " + six.substring(2) + " 1;hole " + six.substring(3)
+                    + " 1;hole " + six.substring(4) + " 1;hole " + c + " 1;spec 1;");
+            char next = c == 'z' ? 'a' : (char) (c + 1);
+            well(0, "sketch 4;in " + c + next + " 1;in " + next + c + " 1;hole " + c + " 1;hole " + next + " 1;spec 1;");
+        }
     }
 
     private static void whatStandsTogether() {
@@ -261,6 +271,12 @@ public final class EdgesOfTextTest {
     private static void linesAheadOfStatements() {
         Tester.by("All LINES stand ahead of all STATEMENTS");
         well(1, HEAD + "var v;in x 1;hole h 1;v=x;spec 1;");
+        SketchFiller mixed = Tester.told(HEAD + "var i;var j;hole d 1;var k;hole e 1;hole f 1;hole g 1;hole h 2;in a 1;var l;in b 2;in c 1;"
+                + "i=a;j=b;k=c;l=h;spec 1;");
+        int[] has = {6, 3, 5, 4, 4, 4, 6};
+        for (int what = 0; what < 7; what++) Tester.due("in any order, has " + what, mixed.has(what), has[what]);
+        int[] ends = {1, 2, 1, 3};
+        for (int k = 0; k < 4; k++) Tester.due("in any order, var " + k, mixed.ends(3, 13, k), ends[k]);
         for (String line : new String[] {"in x 1;", "hole h 1;", "var w;"}) {
             well(0, HEAD + line + "spec 1;");
             well(1, HEAD + "var v;" + line + "v=1;spec 1;");
@@ -374,6 +390,12 @@ public final class EdgesOfTextTest {
 
     private static void namesThatAreNone() {
         Tester.by("A NAME is a WORD but sketch, in, hole, rank, var, must, if, else, loop, while, most, let, spec");
+        fault(1, HEAD + "in @3;spec 1;");
+        fault(1, HEAD + "hole @3;spec 1;");
+        fault(1, HEAD + "var @3;spec 1;");
+        fault(1, HEAD + "var @;spec 1;");
+        fault(1, HEAD + "let @3=1{}spec 1;");
+        fault(1, HEAD + "let @=1{}spec 1;");
         for (String word : WORDS.split(" ")) {
             fault(1, HEAD + "in @" + word + " 1;spec 1;");
             fault(1, HEAD + "hole @" + word + " 1;spec 1;");
@@ -383,6 +405,10 @@ public final class EdgesOfTextTest {
             String shorter = word.substring(0, word.length() - 1);
             well(1, HEAD + "var " + shorter + ";" + shorter + "=1;spec " + shorter + ";");
             well(1, HEAD + "var " + word.substring(1) + "z;let " + shorter + "=1{}spec 1;");
+            for (int i = 0; i < word.length(); i++) {
+                String near = word.substring(0, i) + "x" + word.substring(i + 1);
+                well(1, HEAD + "var " + near + ";" + near + "=1;spec " + near + ";");
+            }
             if (word.length() < 6) well(1, HEAD + "var " + word + "s;" + word + "s=1;spec " + word + "s;");
         }
     }
@@ -404,6 +430,7 @@ public final class EdgesOfTextTest {
         fault(3, HEAD + all + "let m=1{let n=1{let @m=1{}}}spec 1;");
         fault(3, HEAD + all + "let m=1{let n=1{let @n=1{}}}spec 1;");
         well(3, HEAD + all + "let m=1{let n=1{let o=1{}}}spec 1;");
+        well(6, HEAD + all + "let m=a{let n=m+b{let o=n+m+c{o=o+n+m+l;m=o;n=o;}}}spec a+b+c+d+e+f+g+h+i+j+k+l;");
     }
 
     private static void namesOfLets() {

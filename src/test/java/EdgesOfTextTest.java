@@ -189,6 +189,14 @@ public final class EdgesOfTextTest {
             // Behind an operator, and behind the end of spec, ; is the one that is wrong.
             else if (";=&|^<+-*/%".indexOf(c) >= 0) Tester.fault(1, 16, text);
             else Tester.fault(1, 15, text);
+            // Behind the whole of a SKETCH, and ahead of it, nothing but blanks may be.
+            if (c == ' ' || c == '\n') {
+                Tester.well(0, "sketch 4;spec 1;" + c);
+                Tester.well(0, c + "sketch 4;spec 1;");
+            } else {
+                Tester.fault(1, 16, "sketch 4;spec 1;" + c);
+                Tester.fault(1, 0, c + " sketch 4;spec 1;");
+            }
         }
         for (char c = 'a'; c <= 'z'; c++) Tester.well(0, "sketch 4;in " + c + " 1;spec " + c + ";");
         for (char c = 'A'; c <= 'Z'; c++) Tester.fault(1, 12, "sketch 4;in " + c + " 1;spec " + c + ";");

@@ -1231,7 +1231,9 @@ public final class SketchFiller {
 
         private static int digitsOf(int number) {
             int digits = 1;
-            for (int rest = number / 10; rest > 0; rest /= 10) {
+            int rest = number;
+            while (digits < LONGEST_NUMBER && rest > 9) {
+                rest /= 10;
                 digits++;
             }
             return digits;
@@ -1529,7 +1531,7 @@ public final class SketchFiller {
         }
 
         int keepInput(int input) {
-            for (int i = 0; hasKept(i); i++) {
+            for (int i = 0; i < keptCount && i < kept.length; i++) {
                 if (kept[i] == input) {
                     return NONE;
                 }
@@ -1555,7 +1557,7 @@ public final class SketchFiller {
             if (dropped == NONE) {
                 return NONE;
             }
-            for (int j = i; hasKept(j + 1); j++) {
+            for (int j = i; j + 1 < keptCount && j + 1 < kept.length; j++) {
                 kept[j] = kept[j + 1];
             }
             keptCount--;
@@ -1631,7 +1633,7 @@ public final class SketchFiller {
             if (isOut(guess)) {
                 return false;
             }
-            for (int i = 0; hasKept(i); i++) {
+            for (int i = 0; i < keptCount && i < kept.length; i++) {
                 boolean counts = ((keptBits >>> i) & 1L) != 0L;
                 if (counts && verdicts.verdictOf(guess, kept[i]) != STANDS) {
                     return false;
@@ -1728,7 +1730,7 @@ public final class SketchFiller {
 
         int keptOf(long keptBits, int wanted) {
             int rest = wanted;
-            for (int i = 0; hasKept(i); i++) {
+            for (int i = 0; i < keptCount && i < kept.length; i++) {
                 if (((keptBits >>> i) & 1L) == 0L) {
                     continue;
                 }

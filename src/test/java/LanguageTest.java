@@ -55,8 +55,10 @@ public final class LanguageTest {
             hold("ints alone: " + m.getName(), Arrays.stream(m.getParameterTypes()).allMatch(t -> t == int.class));
         }
         hold("methods of the face: " + found, found.equals(new TreeSet<>(FACE)));
-        for (Field f : c.getDeclaredFields())
+        for (Field f : c.getDeclaredFields()) {
             hold("field " + f.getName(), Modifier.isPrivate(f.getModifiers()) || f.getName().equals("NONE"));
+            finalIfStatic(f);
+        }
         Constructor<?>[] made = c.getDeclaredConstructors();
         hold("one constructor", made.length == 1 && made[0].getParameterCount() == 0 && Modifier.isPublic(made[0].getModifiers()));
         hold("at most twelve classes", c.getDeclaredClasses().length < 12);
@@ -64,7 +66,14 @@ public final class LanguageTest {
             hold("static: " + inner, Modifier.isStatic(inner.getModifiers()) && !Modifier.isPublic(inner.getModifiers()));
             long fields = Arrays.stream(inner.getDeclaredFields()).filter(f -> !Modifier.isStatic(f.getModifiers())).count();
             hold("some twenty fields: " + inner, fields <= 20);
+            for (Method m : inner.getDeclaredMethods())
+                hold("a name of the face within " + inner + ": " + m.getName(), FACE.stream().noneMatch(f -> f.split(" ")[1].equals(m.getName())));
+            for (Field f : inner.getDeclaredFields()) finalIfStatic(f);
         }
+    }
+
+    private static void finalIfStatic(Field f) {
+        hold("static, not final: " + f, !Modifier.isStatic(f.getModifiers()) || Modifier.isFinal(f.getModifiers()));
     }
 
     private static void words(String source) {
